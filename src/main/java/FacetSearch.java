@@ -22,7 +22,7 @@ public final class FacetSearch {
     private static final int WORD_SCORES = 10;
     private static final int NEAR_WORD_SCORES = 6;
     private static final int LESS_FOR_EACH_CHANGE = 2;
-    private static final int MOST_CHANGES = 2;
+    private static final int TOO_FAR = 3;
     private static final int VALUE_SCORES = 3;
     private static final int VALUE_UNDER_SCORES = 1;
     private static final int YEARS_SCORE = 2;
@@ -293,18 +293,15 @@ public final class FacetSearch {
             case Question.WORD:
                 return shelf.hasWord(record, question.words[term]) ? WORD_SCORES : 0;
             case Question.NEAR_WORD:
-                return nearWordScore(record, question.words[term]);
+                // A nearest word that is TOO_FAR leaves 0: the term does not hold.
+                return NEAR_WORD_SCORES
+                        - LESS_FOR_EACH_CHANGE * nearestBelow(question.words[term], record, TOO_FAR);
             case Question.VALUE:
                 return valueScore(record, question.first[term], question.second[term]);
             default:
                 return shelf.hasYearWithin(record, question.first[term], question.second[term])
                         ? YEARS_SCORE : 0;
         }
-    }
-
-    private int nearWordScore(int record, long word) {
-        int nearest = nearestBelow(word, record, MOST_CHANGES + 1);
-        return nearest > MOST_CHANGES ? 0 : NEAR_WORD_SCORES - LESS_FOR_EACH_CHANGE * nearest;
     }
 
     private int valueScore(int record, int facet, int asked) {
@@ -347,15 +344,12 @@ public final class FacetSearch {
         }
 
         static long withLetter(long word, int place, int letter) {
-            return word | (long) (letter - BELOW_A) << shiftOf(place);
+            return word | (long) (letter - BELOW_A) << BITS * (LETTERS - 1 - place);
         }
 
-        private static int codeAt(long word, int place) {
-            return (int) (word >> shiftOf(place)) & MASK;
-        }
-
-        private static int shiftOf(int place) {
-            return BITS * (LETTERS - 1 - place);
+        /** The five bits of the letter at a place below ten, 0 where there is none. */
+        static int codeAt(long word, int place) {
+            return (int) (word >> BITS * (LETTERS - 1 - place)) & MASK;
         }
     }
 
@@ -417,6 +411,7 @@ public final class FacetSearch {
         final long[] words = new long[RECORDS * WORDS];
         final int[] wordCounts = new int[RECORDS];
         final int[] values = new int[RECORDS * FACETS];
+        /** NONE where a record has no span. */
         final int[] firstYears = new int[RECORDS];
         final int[] lastYears = new int[RECORDS];
         final int[] roles = new int[RECORDS];
@@ -427,7 +422,6 @@ public final class FacetSearch {
         Shelf() {
             Arrays.fill(values, NONE);
             Arrays.fill(firstYears, NONE);
-            Arrays.fill(lastYears, NONE);
             Arrays.fill(roles, ALL_ROLES);
         }
 
@@ -560,10 +554,14 @@ public final class FacetSearch {
             return Math.min(row[lengthTwo], limit);
         }
 
+        /** Lays a word's letters out in a row of ten; answers how many there are. */
         private static int spell(long word, int[] letters) {
-            int length = Words.lengthOf(word);
-            for (int i = 0; i < length; i++) {
-                letters[i] = Words.letterOf(word, i);
+            int length = 0;
+            for (int i = 0; i < LETTERS; i++) {
+                letters[i] = Words.codeAt(word, i);
+                if (letters[i] != 0) {
+                    length++;
+                }
             }
             return length;
         }

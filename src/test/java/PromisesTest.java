@@ -185,7 +185,11 @@ public final class PromisesTest {
         dueThrown("61", STATE, () -> x.feed('a', 0, 'b', 0, 0));
         due("59 as before", x.count(0), 59);
         due("60", x.feed(0, 0, 0, 0x61000000, 0), 60);
-        dueThrown("61", STATE, () -> x.feed(0, 0, 0, 0, 'a'));
+        dueThrown("61 by a", STATE, () -> x.feed('a', 0, 0, 0, 0));
+        dueThrown("61 by b", STATE, () -> x.feed(0, 'a', 0, 0, 0));
+        dueThrown("61 by c", STATE, () -> x.feed(0, 0, 'a', 0, 0));
+        dueThrown("61 by d", STATE, () -> x.feed(0, 0, 0, 'a', 0));
+        dueThrown("61 by e", STATE, () -> x.feed(0, 0, 0, 0, 'a'));
         dueThrown("80", STATE, () -> put(x, twenty));
         dueThrown("argument ahead of state", ARGUMENT, () -> x.feed('a', 0, 0, 0, 128));
         due("none more", x.feed(0, 0, 0, 0, 0), 60);
@@ -425,12 +429,12 @@ public final class PromisesTest {
     private static void askFaults() {
         String[] texts = {"abcdefghijk", "abcdefghij~~", "a~b", "~", "a1", "a:1", "a@", "4:1", "9", "0", "0:", "0 :1",
             "0: 1", "00:1", "0:16", "0:20", "0:99", "0:015", "0:1a", "0:5~", "3:155", "@", "@-", "@1", "@1-", "@12345-6",
-            "@1-12345", "@1 -2", "@1- 2", "@1-2-", "@1-2~", "@a", "@1-a", "  ?", "a ?", "a\t", "\u0001", "\u007f", "a\u007f",
+            "@1-12345", "@00001-2", "@1-00002", "@1 -2", "@1- 2", "@1-2-", "@1-2~", "@a", "@1-a", "  ?", "a ?", "a\t", "\u0001", "\u007f", "a\u007f",
             "a b c d e f g h i", "a b c d e f g h  ?", "a b c d e f g hi~ 0", "a b c d e f g 0:", "a`", "a{", "/", ":", "@/",
             "@:", "@1-/", "@1-:", "0:/", "0::", "a~ ~", "0:1@"};
         int[] places = {10, 11, 2, 0, 1, 1, 1, 0, 0, 1, 2, 1,
             2, 1, 3, 3, 3, 4, 3, 3, 4, 1, 1, 2, 3, 5,
-            7, 2, 3, 4, 4, 1, 3, 2, 2, 1, 0, 0, 1,
+            7, 5, 7, 2, 3, 4, 4, 1, 3, 2, 2, 1, 0, 0, 1,
             16, 17, 18, 16, 1, 1, 0, 0, 1,
             1, 3, 3, 2, 2, 3, 3};
         due("as many places as texts", places.length, texts.length);
@@ -494,6 +498,9 @@ public final class PromisesTest {
         due("equal, by number", x.hit(0, 0), 0);
         due("the nearest", ask(x, 0, "golf~"), 1);
         due("of all words", x.score(0, 0), 4);
+        words(x, 3, "bold");
+        ask(x, 0, "gold~");
+        due("the same behind one that is near", x.score(0, 0), 6);
         due("every record", ask(x, 0, ""), 5);
         for (int k = 0; k < 5; k++) {
             due("by number", x.hit(k, 0), k);
@@ -624,6 +631,9 @@ public final class PromisesTest {
         words(x, 1, "zzzzzzz", "bold", "qqqqqqqqqq");
         due("the nearest", x.far(0, 1), 1);
         due("the nearest", x.far(1, 0), 1);
+        words(x, 1, "gold");
+        due("the same behind one that is near", x.far(0, 1), 0);
+        due("the same behind one that is near", x.far(1, 0), 0);
         due("itself", x.far(0, 0), 0);
         due("none", x.far(0, 2), NONE);
         due("none", x.far(2, 0), NONE);
