@@ -822,6 +822,21 @@ public final class PromiseBoundaryTest extends Checks {
         }
     }
 
+    /** Promise 14: the "nearest words": the same ones, behind and ahead of any that are nearly those. */
+    static void sameWordAmongNearOnes() {
+        for (int one = 0; one < 12; one++) {
+            for (int other = 0; other < 12; other += 11) {
+                Search x = Search.withRecords(2);
+                for (int n = 0; n < 12; n++) {
+                    x.word(0, (char) ('a' + n) + (n == one ? "same" : "some"));
+                    x.word(1, n == other ? (char) ('a' + one) + "same" : (char) ('m' + n) + "same");
+                }
+                due("the same at " + one, x.far(0, 1), 0);
+                due("the other way round", x.far(1, 0), 0);
+            }
+        }
+    }
+
     /** Promise 14: 0 for a word in common, and ten at the most. */
     static void farFrom0To10() {
         for (int far = 0; far <= 10; far++) {

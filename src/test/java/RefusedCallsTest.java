@@ -270,4 +270,35 @@ public final class RefusedCallsTest extends Checks {
             inBothScenes("what " + what, ARGUMENT, x -> x.count(what));
         }
     }
+
+    /** Promises 2, 3, 6 to 9: calls that ask for what is so already are answered, and change nothing. */
+    static void callsForWhatIsSoAlready() {
+        inSmallScene("no signs", "4", x -> x.feed(0, 0, 0, 0, 0));
+        Refusals.changesNothing("no signs behind 60", Scenes.fullPad(), "60", x -> x.feed(0, 0, 0, 0, 0));
+        Refusals.changesNothing("the empty pad", Scenes.small(""), "0", Search::clear);
+        inSmallScene("the same value", "5", x -> x.facet(0, 0, 5));
+        inSmallScene("none again", "-1", x -> x.facet(3, 3, NONE));
+        inSmallScene("the same parent", "true", x -> x.parent(0, 5, 4));
+        inSmallScene("no parent again", "true", x -> x.parent(0, 2, NONE));
+        inSmallScene("the same span", "null", x -> x.span(0, 10, 20));
+        inSmallScene("not seen already", "false", x -> x.right(0, 3, false));
+        inSmallScene("seen already", "false", x -> x.right(0, 4, true));
+    }
+
+    /** Promises 11 to 17: these calls only tell, also at their edges ("NONE"). */
+    static void callsThatOnlyTell() {
+        inSmallScene("the last hit", "1", x -> x.hit(1, 0));
+        inSmallScene("its score", "7", x -> x.hit(1, 1));
+        inSmallScene("its last term's", "3", x -> x.score(1, 1));
+        inSmallScene("counted", "2", x -> x.counted(0, 4));
+        inSmallScene("far", "1", x -> x.far(0, 1));
+        inSmallScene("far from one without words", "-1", x -> x.far(0, 3));
+        inSmallScene("no record is like it", "-1", x -> x.like(0, 0));
+        inSmallScene("letters", "5", x -> x.letter(0, 1, -1));
+        Refusals.changesNothing("like", Scenes.full("al"), "31", x -> x.like(0, 0));
+        Refusals.changesNothing("like, behind the last", Scenes.full("al"), "-1", x -> x.like(0, 1));
+        Refusals.changesNothing("like, far behind", Scenes.full("al"), "-1", x -> x.like(0, Integer.MAX_VALUE));
+        Refusals.changesNothing("the last term", Scenes.full("al"), "2", x -> x.score(1, 7));
+        Refusals.changesNothing("terms", Scenes.full("al"), "8", x -> x.count(5));
+    }
 }

@@ -53,6 +53,23 @@ public final class TermsBoundaryTest extends Checks {
         due("no sign more", x.feed(0, 0, 0, 0, 0), 60);
     }
 
+    /** Terms, the pad: "at most 60 SIGNS (1 .. 127)": none of them goes in as the 61st, at any place. */
+    static void noSignIsThe61st() {
+        for (int shift = 0; shift < 32; shift += 8) {
+            Search full = new Search();
+            full.put(SIXTY_LETTERS);
+            Search last = new Search();
+            last.put(SIXTY_LETTERS.substring(1));
+            for (int sign = 1; sign <= 127; sign++) {
+                int four = sign << shift;
+                dueOf("sign " + sign + " at bit " + shift, STATE, () -> full.feed(0, 0, 0, 0, four));
+                dueOf("two of sign " + sign, STATE, () -> last.feed(four, 0, four, 0, 0));
+            }
+            due("signs behind them", full.count(0), 60);
+            due("signs behind two at once", last.count(0), 59);
+        }
+    }
+
     /** Terms, the pad: "SIGNS (1 .. 127)". */
     static void signsFrom1To127() {
         for (int sign = 0; sign <= 255; sign++) {
