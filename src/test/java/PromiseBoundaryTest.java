@@ -829,7 +829,7 @@ public final class PromiseBoundaryTest extends Checks {
                 Search x = Search.withRecords(2);
                 for (int n = 0; n < 12; n++) {
                     x.word(0, (char) ('a' + n) + (n == one ? "same" : "some"));
-                    x.word(1, n == other ? (char) ('a' + one) + "same" : (char) ('m' + n) + "same");
+                    x.word(1, n == other ? (char) ('a' + one) + "same" : (char) ('m' + n) + "some");
                 }
                 due("the same at " + one, x.far(0, 1), 0);
                 due("the other way round", x.far(1, 0), 0);
